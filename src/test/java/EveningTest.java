@@ -18,6 +18,7 @@ public final class EveningTest {
         tooLong();
         waitOfTheFirst();
         joinTwice();
+        leastPortionAhead();
         mean();
         bestWait();
         settle();
@@ -160,6 +161,19 @@ public final class EveningTest {
         x.train(0);
         Check.putAll(x, 0, 2, 1, 0);
         check.due("the row", x.alike(0), true);
+    }
+
+    private static void leastPortionAhead() {
+        PartingTrains x = Check.of("root 20;place 0 10 20;place 1 10 20;fork 1 1 3;fork 2 1 2;"
+                + "portion 2 1;portion 1 2;portion 2 4;");
+        x.hold(2, 5);
+        x.evening(0, 1081);
+        x.evening(1, 1093);
+        x.train(0);
+        Check.putAll(x, 0, 1, 0, 2);
+        check.due("they come in one minute", x.rows(0), 1);
+        check.due("of the rows that with the least portion is ahead", x.alike(0), true);
+        check.due("reaches", x.reaches(1, 0), 1106);
     }
 
     private static void mean() {

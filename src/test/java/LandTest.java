@@ -211,6 +211,8 @@ public final class LandTest {
         for (int what = 0; what < due.length; what++) {
             check.due("told " + what, x.told(what), due[what]);
         }
+        x.shut(1, true);
+        check.due("a shut fork is still told", x.told(4), 2);
         check.illegal("told -1", () -> x.told(-1));
         check.illegal("told 6", () -> x.told(6));
         PartingTrains y = Check.of("root 9;fork 0 1 1;fork 0 2 2;place 0 1 1;portion 1 3;portion 1 4;");

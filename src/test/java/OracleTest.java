@@ -13,6 +13,9 @@ public final class OracleTest {
     private static final String[] PRELUDE = {"train", "train", "put", "put", "put", "put", "put", "put", "put", "put",
         "put", "sort", "sort", "hold", "hold", "hold", "hold", "evening", "evening", "job", "job", "job", "job"};
 
+    private static final int[] EXTREMES = {Integer.MIN_VALUE, Integer.MAX_VALUE, Integer.MIN_VALUE + 1, 1 << 30, -2, 12,
+        31, 32, 1 << 16};
+
     private final Random random;
     private final PartingTrains x = new PartingTrains();
     private final Oracle o = new Oracle();
@@ -244,6 +247,9 @@ public final class OracleTest {
 
     private String compare(int op) {
         int[] a = arguments(op);
+        if (a.length > 0 && random.nextInt(60) == 0) {
+            a[upTo(a.length)] = EXTREMES[upTo(EXTREMES.length)];
+        }
         String got;
         String due;
         try {

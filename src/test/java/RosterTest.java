@@ -12,6 +12,7 @@ public final class RosterTest {
         cuts();
         why();
         day();
+        run();
         images();
         count();
         check.end("RosterTest");
@@ -174,12 +175,19 @@ public final class RosterTest {
         check.noSuch("no train, no place", () -> x.why(-1, 9));
         check.outOfBounds("no place", () -> x.why(0, 5));
         check.outOfBounds("a place below", () -> x.why(0, -1));
-        PartingTrains y = Check.of("root 9;place 0 1 9;place 1 1 9;place 1 1 9;place 2 1 9;fork 0 1 1;"
-                + "portion 1 1;portion 4 1;want 2 5 1;want 2 6 1;want 3 7 1;want 1 8 1;want 4 9 1;");
+        PartingTrains y = Check.of("root 9;place 0 1 9;place 1 1 9;place 1 1 9;place 2 1 9;place 0 1 9;"
+                + "portion 1 1;portion 4 1;portion 5 1;portion 3 1;"
+                + "want 2 5 1;want 2 6 1;want 3 7 1;want 1 8 1;want 4 9 1;want 5 100 1;");
         y.train(0);
         Check.putAll(y, 0, 1, 0);
         check.due("the first group counts nothing", y.why(0, 0), 0);
         check.due("nor those that stay", y.why(0, 1), 0);
+        y.clear(0);
+        Check.putAll(y, 0, 2, 1);
+        check.due("places by which they go count too", y.why(0, 0), 28);
+        y.clear(0);
+        Check.putAll(y, 0, 3, 1);
+        check.due("the place itself does not", y.why(0, 1), 20);
     }
 
     private static void day() {
@@ -198,6 +206,24 @@ public final class RosterTest {
         }
         check.due("some days are late, some not", late > 40 && late < 180, true);
         check.due("no chances", Check.of("root 5;place 0 5 5;portion 1 1;late 0 0 50;").run(7, 200), 0);
+    }
+
+    private static void run() {
+        PartingTrains z = Check.of(Check.LAND + "late 2 0 30;late 3 19 7;");
+        int seed = -77;
+        int sum = 0;
+        for (int i = 0; i < 200; i++) {
+            int late = 0;
+            int[] chances = {5, 10, 0, 19};
+            for (int p = 0; p < 4; p++) {
+                if (chances[p] > 0) {
+                    seed = seed * 1103515245 + 12345;
+                    late |= (seed >> 16 & 32767) % 20 < chances[p] ? 1 << p : 0;
+                }
+            }
+            sum += z.harm(late);
+        }
+        check.due("two hundred days", z.run(-77, 200), sum);
     }
 
     private static void images() {

@@ -242,6 +242,12 @@ public final class TrainTest {
         y.clear(0);
         Check.putAll(y, 0, 1, 0);
         check.due("strong enough", y.error(0), 0);
+        PartingTrains z = Check.of("root 20;place 0 1 20;place 0 1 20;fork 0 1 1;portion 1 3;portion 2 3;"
+                + "engine 0 5;engine 0 6;");
+        z.train(0);
+        Check.putAll(z, 0, 0, 1);
+        check.due("at the root it pulls the whole row", z.engine(0), 1);
+        check.due("the second group takes the least", z.engine(1), 0);
     }
 
     private static void orderOfErrors() {
