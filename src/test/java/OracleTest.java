@@ -65,7 +65,7 @@ public final class OracleTest {
                 k -= OFTEN[op];
                 op++;
             }
-            fault = compare(op);
+            fault = random.nextInt(100) == 0 ? tell(randomLand(true)) : compare(op);
         }
         return fault;
     }
