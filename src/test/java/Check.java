@@ -1,7 +1,14 @@
+import java.util.NoSuchElementException;
+import java.util.function.IntConsumer;
+import java.util.stream.IntStream;
+
 /** Counts the answers that are not due, and ends a test. */
 final class Check {
     private int wrong = 0;
     private int checked = 0;
+    private int sentences = 0;
+    private int checkedAtSentence = 0;
+    private String sentence = "";
 
     /** A land with a fork at the root and one behind it, used by most tests. */
     static final String LAND = "root 20;place 0 10 15;place 1 20 10;place 1 30 10;place 0 5 8;"
@@ -29,8 +36,20 @@ final class Check {
 
     static PartingTrains of(String text) {
         PartingTrains x = new PartingTrains();
-        tell(x, text);
+        int places = tell(x, text);
+        if (places < 0) {
+            throw new IllegalStateException("no land for a test: " + places + " at " + x.fault() + " of " + text);
+        }
         return x;
+    }
+
+    /** The row of a train, its portions as digits. */
+    static String row(PartingTrains x, int train) {
+        StringBuilder row = new StringBuilder();
+        for (int k = 0; k < 9 && x.row(train, k) != PartingTrains.NONE; k++) {
+            row.append(x.row(train, k));
+        }
+        return row.toString();
     }
 
     static void putAll(PartingTrains x, int train, int... portions) {
@@ -39,11 +58,37 @@ final class Check {
         }
     }
 
+    /** Words of the document that the checks behind this one are for. */
+    void sentence(String where, String words) {
+        endSentence();
+        sentences++;
+        checkedAtSentence = checked;
+        sentence = where + " \"" + words + "\": ";
+    }
+
+    private void endSentence() {
+        if (sentences > 0 && checked == checkedAtSentence) {
+            wrong++;
+            System.out.println(sentence + "nothing is checked");
+        }
+    }
+
+    private void tellWrong(String what, String got, String want) {
+        wrong++;
+        System.out.println(sentence + what + ": answered " + got + ", due is " + want);
+    }
+
     void due(String what, long got, long want) {
         checked++;
         if (got != want) {
-            wrong++;
-            System.out.println(what + ": answered " + got + ", due is " + want);
+            tellWrong(what, String.valueOf(got), String.valueOf(want));
+        }
+    }
+
+    void due(String what, String got, String want) {
+        checked++;
+        if (!got.equals(want)) {
+            tellWrong(what, got, want);
         }
     }
 
@@ -60,9 +105,33 @@ final class Check {
             got = e.getClass().getName();
         }
         if (!got.equals(kind.getName())) {
-            wrong++;
-            System.out.println(what + ": threw " + got + ", due is " + kind.getName());
+            tellWrong(what, got, kind.getName());
         }
+    }
+
+    /** A call that takes one number: it refuses those beyond both edges, and far beyond them. */
+    void illegalBeyond(String what, int low, int high, IntConsumer call) {
+        for (int number : beyond(low, high)) {
+            illegal(what + " " + number, () -> call.accept(number));
+        }
+    }
+
+    void outOfBoundsBeyond(String what, int high, IntConsumer call) {
+        for (int number : beyond(0, high)) {
+            outOfBounds(what + " " + number, () -> call.accept(number));
+        }
+    }
+
+    void noSuchBeyond(String what, int high, IntConsumer call) {
+        for (int number : beyond(0, high)) {
+            noSuch(what + " " + number, () -> call.accept(number));
+        }
+    }
+
+    private static int[] beyond(int low, int high) {
+        // The later ones show a class that looks at some bits of a number alone.
+        return IntStream.of(low - 1, high + 1, Integer.MIN_VALUE, Integer.MAX_VALUE, low + 32, low + 64, low + 65536)
+                .filter(number -> number < low || number > high).toArray();
     }
 
     void illegal(String what, Runnable call) {
@@ -74,11 +143,13 @@ final class Check {
     }
 
     void noSuch(String what, Runnable call) {
-        refused(what, java.util.NoSuchElementException.class, call);
+        refused(what, NoSuchElementException.class, call);
     }
 
     void end(String name) {
-        System.out.println(name + ": " + checked + " checked, " + wrong + " wrong");
+        endSentence();
+        String of = sentences > 0 ? sentences + " sentences, " : "";
+        System.out.println(name + ": " + of + checked + " checked, " + wrong + " wrong");
         if (wrong > 0) {
             System.exit(1);
         }
