@@ -25,6 +25,8 @@ public final class EveningEdgesTest {
         harm();
         mean();
         bestWait();
+        bestWaitByChances();
+        otherWaitsAsTheyAre();
         settle();
         spoil();
         alike();
@@ -289,16 +291,18 @@ public final class EveningEdgesTest {
         check.due("a chance of none", Check.of(one + "late 0 0 7;").mean(), 0);
         check.due("the least chance", Check.of(one + "late 0 1 7;").mean(), 21);
         check.due("the greatest", Check.of(one + "late 0 19 7;").mean(), 19 * 21);
-        check.due("no land", new PartingTrains().mean(), 0);
-        check.due("no portions", Check.of("root 5;").mean(), 0);
         // Portion 1 has no chance: it adds 60 for its row to both ways, 20 together, and nothing else.
         check.due("one of two", Check.of(one + "late 0 19 7;portion 1 1;late 1 0 120;").mean(), 19 * 21 + 20 * 60);
+        check.due("the other of two", Check.of(one + "late 0 0 120;portion 1 1;late 1 19 7;").mean(), 19 * 7 + 20 * 60);
         StringBuilder seven = new StringBuilder("root 9;place 0 1 9;");
         for (int p = 0; p < 7; p++) {
             seven.append("portion 1 1;late ").append(p).append(" 10 1;");
         }
         // 128 ways of a weight of 10 to the 7th; six rows more, and each is late by one in half of the ways.
         check.due("seven", Check.of(seven.toString()).mean(), 10_000_000L * (128 * 360 + 7 * 64));
+        check.sentence("Promise 27", "MEAN HARM.");
+        check.due("no land", new PartingTrains().mean(), 0);
+        check.due("no portions", Check.of("root 5;").mean(), 0);
     }
 
     private static void bestWait() {
@@ -314,9 +318,6 @@ public final class EveningEdgesTest {
             check.due("behind by " + d[0], x.bestWait(1), d[1]);
             check.due("the wait is as it was", x.hold(1, 7), 7);
         }
-        // To wait for one that is late costs 2 more by a lateness of 55, and 8 less by one of 45.
-        check.due("seldom late", starting(land + "late 1 1 55;", 1080, 1080).bestWait(1), 5);
-        check.due("mostly late", starting(land + "late 1 19 45;", 1080, 1080).bestWait(1), 50);
         check.sentence("Promise 28", "IllegalArgumentException: no fork.");
         PartingTrains y = Check.of(PAIR);
         check.illegal("no fork", () -> y.bestWait(2));
@@ -324,6 +325,31 @@ public final class EveningEdgesTest {
         check.outOfBoundsBeyond("bestWait", 3, y::bestWait);
         y.shut(1, true);
         check.due("a shut fork", y.bestWait(1), 0);
+    }
+
+    private static void bestWaitByChances() {
+        check.sentence("Terms 4", "that by which MEAN HARM is least");
+        String land = PAIR.replace("fork 1 1 2", "fork 1 1 1");
+        // To wait for one that is late costs 2 more by a lateness of 55, and 8 less by one of 45.
+        check.due("not worth it", Check.of(land + "late 1 1 55;").bestWait(1), 5);
+        check.due("worth it", Check.of(land + "late 1 19 45;").bestWait(1), 50);
+        // The second waits for 15 minutes, if the first is late by 20: which has no chance here, but one there.
+        check.due("no chance, though a lateness", Check.of(land + "late 0 0 20;late 1 1 1;").bestWait(1), 10);
+        check.due("the least chance", Check.of(land + "late 0 1 20;late 1 1 1;").bestWait(1), 15);
+    }
+
+    private static void otherWaitsAsTheyAre() {
+        check.sentence("Terms 4", "(all other WAITS as they are)");
+        String land = "root 60;place 0 10 60;place 1 10 60;fork 1 1 1;fork 2 1 1;portion 2 1;portion 2 1;portion 1 1;";
+        // If 0 waits for 1 at place 2, both come to place 1 just with portion 2: two rows less, for 65.
+        PartingTrains x = starting(land, 1080, 1140, 1151);
+        check.due("sixty minutes, and no less", x.bestWait(2), 60);
+        x.hold(1, 5);
+        // Now 1 waits for portion 2 at place 1 by itself, so that waiting at place 2 spares one row alone.
+        check.due("by another wait", x.bestWait(2), 0);
+        // If 0 does not wait, it goes on with portion 3, which costs that 75; nothing of that stays when it waits.
+        PartingTrains y = starting(land.replace("fork 1 1 1", "fork 1 1 5") + "portion 1 15;", 1080, 1100, 1200, 1090);
+        check.due("to be rid of the long one", y.bestWait(2), 20);
     }
 
     private static void settle() {
@@ -406,6 +432,11 @@ public final class EveningEdgesTest {
         for (int[] d : due) {
             check.due("right " + d[0] + " times", x.wrong(0, d[0]), d[1]);
         }
+        PartingTrains y = Check.of("root 9;place 0 1 9;place 1 1 9;portion 1 1;portion 2 1;want 1 101 0;");
+        y.train(0);
+        Check.putAll(y, 0, 0, 1);
+        check.due("9999 by 200", y.wrong(0, 1), 49);
+        check.due("10100 by 200", y.wrong(0, 0), 50);
         check.sentence("Promise 32", "IllegalArgumentException: s is not 0 to 100.");
         check.illegalBeyond("wrong", 0, 100, s -> x.wrong(0, s));
         check.noSuchBeyond("wrong", 0, train -> x.wrong(train, 0));

@@ -190,6 +190,9 @@ public final class LandEdgesTest {
         faulty("root " + "0".repeat(480) + "61;", 2, 5);
         faulty("root " + "0".repeat(480) + ";", 2, 5);
         faulty("root " + "9".repeat(480) + ";", 2, 5);
+        faulty("root ;", 1, 5);
+        faulty("root;", 1, 4);
+        faulty("root 5;place 0 1;", 1, 16);
         faulty("root 6 0;", 1, 7);
         faulty("root 5a;", 1, 6);
         faulty("root a5;", 1, 5);
@@ -210,9 +213,13 @@ public final class LandEdgesTest {
             "wants", "x", "rootplace"}) {
             faulty("root 5;" + word + " 0 1 1;", 1, 7);
         }
-        faulty("roots 5;", 1, 0);
-        faulty("roo 5;", 1, 0);
-        faulty("ROOT 5;", 1, 0);
+        for (String word : new String[] {"roots", "roo", "ROOT", "aoot", "roou", "roota", "rootz", "zroot"}) {
+            faulty(word + " 5;", 1, 0);
+        }
+        for (String word : new String[] {"qlace", "gork", "qortion", "mate", "fngine", "vant", "placf", "forl", "portioo",
+            "latf", "enginf", "wanu", "placez", "forka"}) {
+            faulty("root 5;" + word + " 0 1 1;", 1, 7);
+        }
         faulty("root 5;`", 1, 7);
         faulty("root 5;{", 1, 7);
         faulty("root 5;place` 0 1 1;", 1, 12);

@@ -32,6 +32,9 @@ public final class OracleTest {
         int wrong = 0;
         for (int seed = 0; seed < runs && wrong < 5; seed++) {
             String fault = new OracleTest(seed).play();
+            if (fault == null) {
+                fault = new OracleTest(seed).playWaits();
+            }
             if (fault != null) {
                 wrong++;
                 System.out.println("seed " + seed + ": " + fault);
@@ -68,6 +71,22 @@ public final class OracleTest {
             fault = random.nextInt(100) == 0 ? tell(randomLand(true)) : compare(op);
         }
         return fault;
+    }
+
+    /** Evenings alone: what is best at a fork hangs on what is done at all others. */
+    private String playWaits() {
+        String fault = tell(randomLand(false));
+        for (int p = 0; fault == null && p < portions; p++) {
+            fault = compare(indexOf("evening"), new int[] {p, 1060 + upTo(60)});
+        }
+        for (int i = 0; fault == null && i < 3 * places; i++) {
+            String name = i < places ? "hold" : "bestWait";
+            fault = compare(indexOf(name), i < places ? new int[] {i, upTo(61)} : new int[] {i % places});
+            if (fault == null && i == 2 * places) {
+                fault = compare(indexOf("settle"));
+            }
+        }
+        return fault == null ? compare(indexOf("mean")) : fault;
     }
 
     private String tell(String text) {
@@ -250,6 +269,10 @@ public final class OracleTest {
         if (a.length > 0 && random.nextInt(60) == 0) {
             a[upTo(a.length)] = EXTREMES[upTo(EXTREMES.length)];
         }
+        return compare(op, a);
+    }
+
+    private String compare(int op, int[] a) {
         String got;
         String due;
         try {

@@ -102,8 +102,6 @@ public final class RosterEdgesTest {
 
     private static void fewest() {
         check.sentence("Terms 5", "FEWEST: ENGINES that do all JOBS.");
-        check.due("no jobs", Check.of(TREE).fewest(), 0);
-        check.due("no land", new PartingTrains().fewest(), 0);
         check.due("one job", withJobs(1, 0, 5).fewest(), 1);
         check.due("all at once", withJobs(14, 0, 5).fewest(), 14);
         check.due("one behind the other", withJobs(14, 5, 5).fewest(), 1);
@@ -118,12 +116,13 @@ public final class RosterEdgesTest {
         x.job(3, 40, 3, 41);
         check.due("by a change of the first choice", x.fewest(), 3);
         check.due("of which no two", x.proof(), 0b11010);
+        check.sentence("Promise 35", "FEWEST.");
+        check.due("no jobs", Check.of(TREE).fewest(), 0);
+        check.due("no land", new PartingTrains().fewest(), 0);
     }
 
     private static void proof() {
         check.sentence("Terms 5", "PROOF: the most JOBS of which no two can be done by one ENGINE: of these sets the least as bits.");
-        check.due("no jobs", Check.of(TREE).proof(), 0);
-        check.due("no land", new PartingTrains().proof(), 0);
         check.due("one job", withJobs(1, 0, 5).proof(), 1);
         check.due("all at once", withJobs(14, 0, 5).proof(), 16383);
         check.due("one behind the other: the least", withJobs(14, 5, 5).proof(), 1);
@@ -136,6 +135,9 @@ public final class RosterEdgesTest {
         x.job(0, 100, 0, 110);
         x.job(0, 500, 0, 510);
         check.due("the least as bits, not as a row", x.proof(), 6);
+        check.sentence("Promise 36", "PROOF.");
+        check.due("no jobs", Check.of(TREE).proof(), 0);
+        check.due("no land", new PartingTrains().proof(), 0);
     }
 
     private static void light() {
@@ -392,6 +394,26 @@ public final class RosterEdgesTest {
         check.due("its row", Check.row(x, 0), "");
         check.due("none is left", x.restore(), -1);
         check.due("nothing changes", x.count(0), 1);
+        PartingTrains z = Check.of(TREE);
+        for (int t = 0; t < 4; t++) {
+            z.train(t);
+            z.put(t, 3 - t);
+        }
+        z.job(0, 0, 0, 1);
+        z.image();
+        for (int t = 0; t < 4; t++) {
+            z.clear(t);
+            z.job(0, 10 * t, 0, 10 * t + 1);
+        }
+        Check.putAll(z, 3, 3, 2, 1, 0);
+        check.due("two engines for five jobs", z.fewest(), 2);
+        z.restore();
+        for (int t = 0; t < 4; t++) {
+            check.due("the row of " + t, Check.row(z, t), "" + (3 - t));
+        }
+        z.job(0, 0, 0, 1);
+        check.due("two other jobs", z.fewest(), 2);
+        check.due("of which no two", z.proof(), 3);
         // What is known of a grouping goes with the trains.
         PartingTrains y = Check.of("root 9;place 0 1 9;portion 1 1;engine 0 9;want 1 1 500;");
         y.train(0);

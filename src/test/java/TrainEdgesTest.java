@@ -37,8 +37,11 @@ public final class TrainEdgesTest {
         worth();
         best();
         bestOfAll();
+        bestByAChange();
+        bestWithoutErrors();
         bound();
         group();
+        allAtTheirMost();
         check.end("TrainEdgesTest");
     }
 
@@ -449,7 +452,9 @@ public final class TrainEdgesTest {
         check.due("its train has an error at the next place", x.error(0), 401);
         check.due("so it does not arrive", x.arrives(0), PartingTrains.NONE);
         check.due("nor does what came to its end", x.arrives(1), PartingTrains.NONE);
+        check.sentence("Promise 16", "ARRIVES.");
         check.illegalBeyond("arrives", 0, 1, x::arrives);
+        check.illegalBeyond("arrives without a land", 0, -1, new PartingTrains()::arrives);
     }
 
     private static void serves() {
@@ -558,6 +563,58 @@ public final class TrainEdgesTest {
         check.due("so portion 1 goes in train 0", w.best(1), 0);
     }
 
+    private static void bestByAChange() {
+        check.sentence("Terms 3", "BEST GROUPING: of all ways");
+        // Nobody goes to 2, so that its want is worth half: by train 1 more than by train 0.
+        PartingTrains x = Check.of("root 9;place 0 1 9;place 1 1 9;place 0 1 9;portion 1 1;portion 3 1;"
+                + "engine 0 9;engine 0 9;want 2 3 510;want 3 1 0;");
+        x.train(0);
+        x.train(500);
+        check.due("half of 297 and all of 100", x.best(-1), 148 + 100);
+        check.due("to place 1", x.best(0), 1);
+        check.due("to place 3", x.best(1), 0);
+        check.due("put", x.group(), 2);
+        check.due("worth as told", x.worth(-1), 248);
+        // With the want of place 1 ahead of it, whole and half go by other trains.
+        PartingTrains y = Check.of("root 9;place 0 1 9;place 1 1 9;portion 1 1;portion 2 1;engine 0 9;engine 0 9;"
+                + "want 2 10 0;want 1 1 500;");
+        y.train(500);
+        y.train(0);
+        check.due("place 2 by train 1, place 1 by train 0", y.best(-1), 1000 + 100);
+        check.due("the first portion", y.best(0), 0);
+        check.due("the second", y.best(1), 1);
+    }
+
+    private static void bestWithoutErrors() {
+        check.sentence("Terms 3", "the one without ERRORS");
+        // Together they would be of the greatest worth, by train 0.
+        String land = "root 9;place 0 1 9;place 1 1 5;place 1 1 9;portion 2 3;portion 2 2;portion 3 1;"
+                + "engine 0 9;engine 0 9;engine 1 9;want 2 1 0;want 3 1 0;";
+        PartingTrains x = Check.of(land + "fork 1 1 1;");
+        x.train(0);
+        x.train(900);
+        check.due("together", x.best(2), 0);
+        x.shut(1, true);
+        check.due("one goes apart: half of 100 is more than 10", x.best(-1), 150);
+        check.due("which one", "" + x.best(0) + x.best(1) + x.best(2), "001");
+        // A carriage more than the platform of place 2 takes, or of place 1, or of the root.
+        String[][] platforms = {{"place 1 1 5;", "place 1 1 4;"}, {"place 0 1 9;", "place 0 1 4;"}, {"root 9;", "root 4;"}};
+        for (String[] platform : platforms) {
+            PartingTrains y = Check.of(land.replace(platform[0], platform[1]) + "fork 1 1 1;");
+            y.train(0);
+            check.due("one train: none by " + platform[1], y.best(-1), -2);
+            y.train(0);
+            check.due("two trains by " + platform[1], "" + y.best(0) + y.best(1) + y.best(2), "010");
+        }
+        check.due("no fork told", oneTrain(land).best(-1), -2);
+        check.due("one stays, no fork", oneTrain(land.replace("portion 3", "portion 1")).best(-1), -2);
+        check.due("all are together, no fork", oneTrain(land.replace("portion 3 1;", "")).best(-1), 100 + 50);
+    }
+
+    private static PartingTrains oneTrain(String land) {
+        return withTrain(land, 0);
+    }
+
     private static void bound() {
         check.sentence("Terms 3", "BOUND: the WORTH, if each WANT were SERVED by the TRAIN whose MINUTE is nearest to H.");
         PartingTrains x = Check.of("root 9;place 0 1 9;want 1 1 500;want 1 2 1439;want 1 3 0;");
@@ -590,10 +647,58 @@ public final class TrainEdgesTest {
         check.due("the first row again", Check.row(x, 0), "0123456");
         check.due("the other has none", Check.row(x, 1), "");
         check.due("no portions", Check.of("root 5;").group(), 0);
+        // Those that stay stand behind those that go on, though they are less.
+        PartingTrains z = Check.of("root 9;place 0 1 9;place 1 1 9;fork 1 1 1;portion 1 1;portion 2 1;portion 1 1;engine 0 9;");
+        z.train(0);
+        z.train(0);
+        check.due("three", z.group(), 3);
+        check.due("the first row of them", Check.row(z, 0), "102");
+        z.clear(0);
+        Check.putAll(z, 0, 0, 1, 2);
+        check.due("none changes its train", z.group(), 0);
+        check.due("but the row", Check.row(z, 0), "102");
         check.sentence("Promise 20", "-2: there is none.");
         PartingTrains y = withTrain(TREE, 0, 1, 3);
         check.due("none", y.group(), -2);
         check.due("nothing changes", Check.row(y, 0), "13");
         check.due("no trains", Check.of(SEVEN).group(), -2);
+    }
+
+    private static void allAtTheirMost() {
+        check.sentence("Terms 1", "PLACES 0 (the root), 1, .., 12 at most; PORTIONS 0, 1, .., 7 at most;"
+                + " ENGINES likewise, 8; WANTS, 12.");
+        // A line to place 4, where all part: seven groups to places 5 to 11.
+        StringBuilder land = new StringBuilder("root 60;");
+        for (int place = 1; place < 12; place++) {
+            land.append("place ").append(Math.min(place - 1, 4)).append(" 1 60;");
+        }
+        for (int place = 5; place < 12; place++) {
+            land.append("portion ").append(place).append(" 1;");
+        }
+        land.append("fork 4 2 1;engine 0 60;").append("engine 4 60;".repeat(7)).append("want 11 1 0;".repeat(12));
+        PartingTrains x = Check.of(land.toString());
+        for (int t = 0; t < 4; t++) {
+            x.train(3 - t);
+        }
+        check.due("the most by one engine at the root", x.best(-1), 1200);
+        check.due("all are put", x.group(), 7);
+        check.due("into the first", Check.row(x, 0), "0123456");
+        x.clear(0);
+        Check.putAll(x, 3, 6, 5, 4, 3, 2, 1, 0);
+        check.due("no error", x.error(3), 0);
+        for (int p = 0; p < 7; p++) {
+            check.due("engine", x.engine(p), 6 - p);
+            check.due("arrives", x.arrives(p), 5 + 2 * (7 - p));
+        }
+        check.due("worth of the last want", x.worth(11), 100);
+        check.due("worth", x.worth(-1), 1200);
+        check.due("bound", x.bound(), 1200);
+        check.due("why", x.why(3, 4), 0);
+        check.due("cuts", x.cuts(3, 6), 6);
+        check.due("sort", x.sort(3), 1);
+        check.due("sorted", Check.row(x, 3), "0123456");
+        check.due("why the last", x.why(3, 4), 12);
+        check.due("all change but none", x.group(), 7);
+        check.due("clear", x.clear(0), 7);
     }
 }
